@@ -8,6 +8,7 @@ public final class TileHands {
     private static final int TILES_OF_A_KIND = 4;
     private static final int HAND_TILES = 11;
     private static final int LAST_TURNED_KIND = 6;
+    private static final int MIDDLE_TURNED_KIND = 3;
     private static final int COMPLETE_GROUPS = 3;
 
     // Sorts of groups: 0 to 8 are three tiles of that kind, 9 to 13 are runs that begin with
@@ -72,7 +73,7 @@ public final class TileHands {
 
     public int turn() {
         // Only up to the middle: further on, each swap would be undone.
-        for (int low = 0; low < LAST_TURNED_KIND - low; low++) {
+        for (int low = 0; low < MIDDLE_TURNED_KIND; low++) {
             int high = LAST_TURNED_KIND - low;
             int kept = tiles[low];
             tiles[low] = tiles[high];
@@ -137,7 +138,7 @@ public final class TileHands {
     public int groups() {
         // A hand of 11 tiles has no room for a fourth group, so sets of up to three are enough.
         int most = 0;
-        for (int set = 0; set < groupSets; set++) {
+        for (int set = 0; set < GROUP_SETS; set++) {
             if (groupSetSize[set] > most && handHolds(set)) {
                 most = groupSetSize[set];
             }
@@ -147,7 +148,7 @@ public final class TileHands {
 
     public int ways() {
         int count = 0;
-        for (int set = 0; set < groupSets; set++) {
+        for (int set = 0; set < GROUP_SETS; set++) {
             if (leavesOnePair(set)) {
                 count++;
             }
@@ -201,7 +202,7 @@ public final class TileHands {
     }
 
     private void listCompleteHands() {
-        for (int set = 0; set < groupSets; set++) {
+        for (int set = 0; set < GROUP_SETS; set++) {
             if (groupSetSize[set] == COMPLETE_GROUPS) {
                 for (int pair = 0; pair < KINDS; pair++) {
                     listCompleteHand(set, pair);
