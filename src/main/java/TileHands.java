@@ -176,13 +176,21 @@ public final class TileHands {
         for (int first = 0; first <= NO_GROUP_SORT; first++) {
             for (int second = first; second <= NO_GROUP_SORT; second++) {
                 for (int third = second; third <= NO_GROUP_SORT; third++) {
-                    layGroup(first);
-                    layGroup(second);
-                    layGroup(third);
-                    groupSets++;
+                    listGroupSet(first, second, third);
                 }
             }
         }
+    }
+
+    private void listGroupSet(int first, int second, int third) {
+        // There is room for every set; so that this need not be taken on trust, it is looked at.
+        if (groupSets >= GROUP_SETS) {
+            return;
+        }
+        layGroup(first);
+        layGroup(second);
+        layGroup(third);
+        groupSets++;
     }
 
     private void layGroup(int sort) {
@@ -212,6 +220,10 @@ public final class TileHands {
     }
 
     private void listCompleteHand(int set, int pair) {
+        // As with the group sets, there is room for every hand, and it is looked at all the same.
+        if (completeHands >= MOST_COMPLETE_HANDS) {
+            return;
+        }
         // The tiles are written behind the list's end; they count only if the end then moves.
         int start = completeHands * KINDS;
         int number = 0;

@@ -16,6 +16,9 @@ public final class BoundaryTest {
     private static final String[] CALLS = {"add", "drop", "turn", "clear", "size", "have", "distance", "wanted",
         "hope", "best", "groups", "ways", "completions"};
 
+    private static final String[] QUESTIONS = {"size", "have", "distance", "wanted", "hope", "best", "groups", "ways",
+        "completions"};
+
     // Empty, one tile, four of a kind, 10 tiles, and full: complete, not complete, without a group.
     private static final String[] STATES = {"", "0", "8", "0000", "8888", "0001112223", "00011122233",
         "00001111222", "77778888666", "00113344667"};
@@ -94,9 +97,12 @@ public final class BoundaryTest {
         for (int kind = 0; kind < 9; kind++) {
             all[kind] = hand.have(kind);
         }
-        for (int question = 0; question < 8; question++) {
-            String name = question == 0 ? "size" : CALLS[5 + question];
-            all[9 + question] = call(hand, name, 0);
+        int next = 9;
+        for (String question : QUESTIONS) {
+            if (!question.equals("have")) {
+                all[next] = call(hand, question, 0);
+                next++;
+            }
         }
         return all;
     }
@@ -183,9 +189,24 @@ public final class BoundaryTest {
 
     private static void callsAfterTheLast() {
         for (String late : CALLS) {
-            TileHands hand = used("0001112223", MOST_CALLS, "size", 0);
-            // Only that it comes back: what it answers is free.
-            call(hand, late, 2);
+            for (String digits : STATES) {
+                TileHands hand = used(digits, MOST_CALLS, "size", 0);
+                // Only that each comes back: what it answers is free.
+                for (int kind = -1; kind <= 9; kind++) {
+                    call(hand, late, kind);
+                }
+                call(hand, late, Integer.MIN_VALUE);
+                call(hand, late, Integer.MAX_VALUE);
+            }
+        }
+    }
+
+    private static void longAfterTheLast() {
+        TileHands hand = new TileHands();
+        for (int made = 0; made < 20 * MOST_CALLS; made++) {
+            // 13 calls and the 11 numbers -1 to 9: each call comes with each number.
+            call(hand, CALLS[made % CALLS.length], made % 11 - 1);
+            call(hand, "add", made % 9);
         }
     }
 
@@ -727,14 +748,6 @@ public final class BoundaryTest {
         answers("00012345666", "best", 1);
     }
 
-    private static void bestChangesNothing() {
-        for (String digits : STATES) {
-            TileHands hand = hand(digits);
-            hand.best();
-            isLike(named(digits) + ": best()", hand, digits);
-        }
-    }
-
     // ---- Promise 12
 
     private static void groupsFromNoneToThree() {
@@ -874,6 +887,37 @@ public final class BoundaryTest {
         answers("00112233", "completions", 33);
     }
 
+    // ---- Not promised
+
+    private static void changesNothing(String question) {
+        for (String digits : STATES) {
+            TileHands hand = hand(digits);
+            int first = call(hand, question, 0);
+            due(named(digits) + ": " + question + "(), again", call(hand, question, 0), first);
+            isLike(named(digits) + ": " + question + "()", hand, digits);
+        }
+    }
+
+    private static void questionsChangeNothing() {
+        for (String question : QUESTIONS) {
+            changesNothing(question);
+        }
+    }
+
+    private static void sameCallsSameAnswers() {
+        TileHands one = new TileHands();
+        TileHands other = new TileHands();
+        // Only the first one is asked in between; the 17 answers at the end are of the 512 calls, too.
+        for (int made = 0; made < (MOST_CALLS - 17) / 2; made++) {
+            int kind = made * 7 % 9;
+            String change = made % 5 == 4 ? "drop" : made % 31 == 30 ? "turn" : made % 67 == 66 ? "clear" : "add";
+            due("change " + made + ", " + change + "(" + kind + ")", call(one, change, kind),
+                    call(other, change, kind));
+            call(one, QUESTIONS[made % QUESTIONS.length], kind);
+        }
+        sameAnswers("an object that was asked a question after each change", one, other);
+    }
+
     private static void terms() {
         check("What it is: \"An object is used for at most 512 calls after it has been made\"",
                 BoundaryTest::theLastCalls);
@@ -943,7 +987,6 @@ public final class BoundaryTest {
         check("Promise 11: \"of several, the one without which the hope is greatest\"",
                 BoundaryTest::bestHasGreatestHope);
         check("Promise 11: \"of several, the least kind\"", BoundaryTest::bestIsLeastKind);
-        check("Promise 11: a question, after which the hand is as before", BoundaryTest::bestChangesNothing);
         check("Promise 12: \"The greatest number of groups\", from none to three",
                 BoundaryTest::groupsFromNoneToThree);
         check("Promise 12: \"that can be taken from the hand at the same time\"",
@@ -962,10 +1005,20 @@ public final class BoundaryTest {
         check("Promise 14: \"different\"", BoundaryTest::completionsAreDifferent);
     }
 
+    private static void notPromised() {
+        check("Not promised: \"Nothing is promised beyond the answers and state changes described above\"",
+                BoundaryTest::questionsChangeNothing);
+        check("LANGUAGE.md 11: \"the same calls always give the same answers\"",
+                BoundaryTest::sameCallsSameAnswers);
+        check("Not promised: \"nothing about an object after its 512th call\", and LANGUAGE.md 7, long after it",
+                BoundaryTest::longAfterTheLast);
+    }
+
     public static void main(String[] args) {
         terms();
         changes();
         questions();
+        notPromised();
         System.out.println(wrong == 0 ? "all answers are as due" : wrong + " answers are not as due");
         if (wrong != 0) {
             System.exit(1);
